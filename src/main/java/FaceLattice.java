@@ -925,12 +925,12 @@ public final class FaceLattice {
             return within;
         }
 
-        // How many parts a gap has, a gap being the points between two faces.
+        // A gap is the set of points between two faces.
         private static int partsOf(int gap) {
             return 1 << Integer.bitCount(gap);
         }
 
-        // The parts of a gap in rising order, beginning with none of its points.
+        // In rising order of the parts, so that a part comes later than all of its own parts.
         private static int partAfter(int part, int gap) {
             return (part - gap) & gap;
         }
@@ -940,9 +940,10 @@ public final class FaceLattice {
                 return 0;
             }
             int gap = upper & ~lower;
+            int parts = partsOf(gap);
             int part = 0;
             int count = 0;
-            for (int k = 0; k < partsOf(gap); k++) {
+            for (int k = 0; k < parts; k++) {
                 if (isFace(lower | part)) {
                     count++;
                 }
@@ -953,8 +954,9 @@ public final class FaceLattice {
 
         private void clearTally(int lower, int upper) {
             int gap = upper & ~lower;
+            int parts = partsOf(gap);
             int part = 0;
-            for (int k = 0; k < partsOf(gap); k++) {
+            for (int k = 0; k < parts; k++) {
                 tally[lower | part] = 0;
                 part = partAfter(part, gap);
             }
@@ -967,8 +969,9 @@ public final class FaceLattice {
             clearTally(lower, upper);
             tally[lower] = 1;
             int gap = upper & ~lower;
+            int parts = partsOf(gap);
             int part = 0;
-            for (int k = 0; k < partsOf(gap); k++) {
+            for (int k = 0; k < parts; k++) {
                 if (isFace(lower | part)) {
                     passOn(lower | part, upper);
                 }
@@ -1001,8 +1004,9 @@ public final class FaceLattice {
         private void tallyMobius(int lower, int upper) {
             clearTally(lower, upper);
             int gap = upper & ~lower;
+            int parts = partsOf(gap);
             int part = 0;
-            for (int k = 0; k < partsOf(gap); k++) {
+            for (int k = 0; k < parts; k++) {
                 tally[closed[lower | part]] += signOf(Integer.bitCount(part));
                 part = partAfter(part, gap);
             }
@@ -1036,8 +1040,9 @@ public final class FaceLattice {
 
         private boolean tallyAlternates(int lower) {
             int gap = all & ~lower;
+            int parts = partsOf(gap);
             int part = 0;
-            for (int k = 0; k < partsOf(gap); k++) {
+            for (int k = 0; k < parts; k++) {
                 int set = lower | part;
                 if (isFace(set) && tally[set] != signOf(ranks[set] - ranks[lower])) {
                     return false;
@@ -1170,13 +1175,12 @@ public final class FaceLattice {
         private final long[] signatures = new long[MAX_POINTS];
         private final long[] targetSignatures = new long[MAX_POINTS];
         private final int[] traces = new int[MAX_FACETS];
+        private final int[] targetTraces = new int[MAX_FACETS];
         private final int[] tally = new int[MAX_SETS];
-        private Incidence source = null;
-        private Incidence target = null;
 
         boolean find(Incidence from, Incidence onto) {
             begin(from, onto, 0);
-            return signaturesMatch() && search();
+            return signaturesMatch(from.points) && search(from, onto);
         }
 
         // The images of point 0, times those of point 1 if 0 stays, and so on:
@@ -1185,7 +1189,7 @@ public final class FaceLattice {
             begin(self, self, 0);
             int count = 1;
             for (int p = 0; p < self.points; p++) {
-                count *= Integer.bitCount(imagesOf(p));
+                count *= Integer.bitCount(imagesOf(p, self));
                 allowed[p] = 1 << p;
             }
             return count;
@@ -1193,13 +1197,11 @@ public final class FaceLattice {
 
         int imagesOnto(Incidence self, int point) {
             begin(self, self, point);
-            return imagesOf(point);
+            return imagesOf(point, self);
         }
 
         // The first point is the one that is mapped first: a point with few images is best met early.
         private void begin(Incidence from, Incidence onto, int first) {
-            source = from;
-            target = onto;
             sign(from, signatures);
             sign(onto, targetSignatures);
             for (int p = 0; p < from.points; p++) {
@@ -1231,9 +1233,9 @@ public final class FaceLattice {
         }
 
         // Seen before the search, since it would meet the last points' want of images again and again.
-        private boolean signaturesMatch() {
-            for (int p = 0; p < source.points; p++) {
-                int like = alike(signatures[p], signatures, source.points);
+        private boolean signaturesMatch(int points) {
+            for (int p = 0; p < points; p++) {
+                int like = alike(signatures[p], signatures, points);
                 if (Integer.bitCount(like) != Integer.bitCount(allowed[p])) {
                     return false;
                 }
@@ -1241,31 +1243,31 @@ public final class FaceLattice {
             return true;
         }
 
-        private int imagesOf(int point) {
+        private int imagesOf(int point, Incidence self) {
             int candidates = allowed[point];
             int images = 0;
-            for (int t = 0; t < target.points; t++) {
+            for (int t = 0; t < self.points; t++) {
                 allowed[point] = candidates & 1 << t;
-                if (allowed[point] != 0 && search()) {
+                if (allowed[point] != 0 && search(self, self)) {
                     images |= 1 << t;
                 }
             }
             return images;
         }
 
-        private boolean search() {
-            return source.points == target.points && source.facets == target.facets && extend(0, 0);
+        private boolean search(Incidence from, Incidence onto) {
+            return from.points == onto.points && from.facets == onto.facets && extend(from, onto, 0, 0);
         }
 
-        private boolean extend(int mapped, int used) {
-            if (mapped >= source.points) {
+        private boolean extend(Incidence from, Incidence onto, int mapped, int used) {
+            if (mapped >= from.points) {
                 return true;
             }
             int free = allowed[order[mapped]] & ~used;
-            for (int t = 0; t < target.points; t++) {
+            for (int t = 0; t < onto.points; t++) {
                 if ((free >> t & 1) == 1) {
                     image[mapped] = t;
-                    if (agrees(mapped + 1) && extend(mapped + 1, used | 1 << t)) {
+                    if (agrees(from, onto, mapped + 1) && extend(from, onto, mapped + 1, used | 1 << t)) {
                         return true;
                     }
                 }
@@ -1275,17 +1277,18 @@ public final class FaceLattice {
 
         // Whether the facets, cut down to the points mapped so far, go to each other, each as often.
         // There are as many facets on both sides, so it is enough to look at the traces of one side.
-        private boolean agrees(int mapped) {
-            for (int f = 0; f < source.facets; f++) {
-                tally[trace(source.sets[f], order, mapped)] = 0;
-                traces[f] = trace(target.sets[f], image, mapped);
+        private boolean agrees(Incidence from, Incidence onto, int mapped) {
+            for (int f = 0; f < from.facets; f++) {
+                traces[f] = trace(from.sets[f], order, mapped);
+                targetTraces[f] = trace(onto.sets[f], image, mapped);
                 tally[traces[f]] = 0;
+                tally[targetTraces[f]] = 0;
             }
-            for (int f = 0; f < source.facets; f++) {
-                tally[trace(source.sets[f], order, mapped)]++;
-                tally[traces[f]]--;
+            for (int f = 0; f < from.facets; f++) {
+                tally[traces[f]]++;
+                tally[targetTraces[f]]--;
             }
-            for (int f = 0; f < source.facets; f++) {
+            for (int f = 0; f < from.facets; f++) {
                 if (tally[traces[f]] != 0) {
                     return false;
                 }

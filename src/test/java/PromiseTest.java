@@ -181,6 +181,9 @@ public final class PromiseTest {
         due("none more", x.append(0, 0, 0, 0, 0), 300);
         x.truncate(298);
         refused("3 where 2 fit", x, STATE, () -> x.append(0x01000100, 0, 0, 0x00010000, 0));
+        refused("3 where 2 fit, in the second", x, STATE, () -> x.append(0, 0x41414100, 0, 0, 0));
+        refused("3 where 2 fit, in the third", x, STATE, () -> x.append(0, 0, 0x80008080, 0, 0));
+        refused("3 where 2 fit, in the fourth", x, STATE, () -> x.append(0, 0, 0, 0x00ff80ff, 0));
         due("length kept", length(x), 298);
         due("2 where 2 fit", x.append(0, 0x00410000, 0, 0, 0x41), 300);
     }
@@ -226,7 +229,9 @@ public final class PromiseTest {
             "points 3;facet 0 x", "points 3;facet;", "points 3;facet 0,1", "points 3;facets 0", "points 3;facet 0facet",
             "points -1", "points 3;facet -1", "points 2;facet 01", "points 2;facet 0 1 0", "points 3;facet 00000",
             "points 3\n", "points\t3", "points 12345", "points 3;facet 9999", "points 3 facet 0",
-            "points 8;facet 0 1 2 3 4 5 6 7 0", "cube a", "3", "points 3;cube 2", "points 2;facet 1 00001"};
+            "points 8;facet 0 1 2 3 4 5 6 7 0", "cube a", "3", "points 3;cube 2", "points 2;facet 1 00001",
+            "xoints 3", "pointsz 3", "points 89", "points 2;zacet 1", "apoints 2", "points 2`", "points 2{", "points 2/",
+            "points 2:", "points 2 ; facet 1 ;"};
         int[] due = {0, 3, 6, 7, 7, 7, 7, 8,
             8, 6, 6, 5, 5, 6, 6, 0, 0,
             0, 0, 0, 0, 6, 9, 10, 9,
@@ -235,7 +240,9 @@ public final class PromiseTest {
             17, 14, 16, 9, 16,
             7, 15, -1, 19, 15,
             8, 6, 7, 15, 9,
-            31, 5, 0, 9, 17};
+            31, 5, 0, 9, 17,
+            0, 0, 7, 9, 0, 8, 8, 8,
+            8, 20};
         for (int k = 0; k < texts.length; k++) {
             due("\"" + texts[k] + "\"", errorIn(texts[k]), due[k]);
         }
@@ -315,6 +322,10 @@ public final class PromiseTest {
         refused("facet 2", x, INDEX, () -> x.setIncident(0, 2, false));
         refused("facet -1", x, INDEX, () -> x.setIncident(0, -1, false));
         refused("both", x, INDEX, () -> x.setIncident(HIGH, LOW, false));
+        x.undo();
+        x.undo();
+        x.setIncident(0, 0, false);
+        facetsDue("after an undo", x, 4, 6);
         FaceLattice none = new FaceLattice();
         refused("no facet", none, INDEX, () -> none.setIncident(0, 0, true));
         FaceLattice full = of("points 8" + ";facet 7".repeat(10));
@@ -332,6 +343,9 @@ public final class PromiseTest {
         due("equal set", x.addFacet(5), 3);
         facetsDue("added", x, 5, 0, 7, 5);
         due("undoCount", x.undoCount(), 4);
+        x.undo();
+        x.addFacet(6);
+        facetsDue("after an undo", x, 5, 0, 7, 6);
         refused("point 3", x, ARGUMENT, () -> x.addFacet(8));
         refused("point 31", x, ARGUMENT, () -> x.addFacet(LOW));
         refused("all bits", x, ARGUMENT, () -> x.addFacet(-1));
@@ -359,6 +373,14 @@ public final class PromiseTest {
         refused("none left", x, INDEX, () -> x.removeFacet(0));
         due("undoCount", x.undoCount(), 5);
         facesDue("faces follow", x, 15);
+        x.undo();
+        due("after an undo", x.removeFacet(0), 8);
+        facetsDue("after an undo", x);
+        FaceLattice y = of("points 4;facet 0;facet 1;facet 2");
+        type(y, "cube 1");
+        y.errorPosition();
+        y.removeFacet(1);
+        facetsDue("after a check of a text", y, 1, 4);
     }
 
     private static void dual() {
@@ -424,6 +446,10 @@ public final class PromiseTest {
         FaceLattice eight = of("simplex 8");
         refused("8 points", eight, STATE, () -> eight.stack(0));
         refused("8 points, wrong facet", eight, INDEX, () -> eight.stack(8));
+        FaceLattice ring = of("cycle 8");
+        refused("8 points, few facets", ring, STATE, () -> ring.stack(0));
+        FaceLattice eleven = of("points 3" + ";facet 0 1".repeat(8) + ";facet 0;facet 1");
+        refused("just 11", eleven, STATE, () -> eleven.stack(0));
         FaceLattice cube = of("cross 3");
         due("just 10", cube.stack(0), 10);
         refused("12", cube, STATE, () -> cube.stack(0));
@@ -929,6 +955,9 @@ public final class PromiseTest {
         refused("no path of facets", two, ELEMENT, () -> two.step(0, 1, true));
         refused("point 7", x, INDEX, () -> x.step(7, 7, false));
         refused("other 7", x, INDEX, () -> x.step(0, 7, false));
+        refused("point 7 alone", x, INDEX, () -> x.step(7, 0, false));
+        refused("facet -1 alone", x, INDEX, () -> x.step(-1, 0, true));
+        refused("other facet 7", x, INDEX, () -> x.step(0, 7, true));
         refused("facet -1", x, INDEX, () -> x.step(-1, -1, true));
         promise = 46;
         due("cycle", x.diameter(false), 3);

@@ -59,21 +59,25 @@ public final class ReferenceTest {
             for (int p = 0; p < 8; p++) {
                 order.add(below(order.size() + 1), p);
             }
-            for (int j = 0; j < points && text.length() < 290; j++) {
-                int point = oneIn(200) ? below(12) : order.get(j) % (oneIn(60) ? 8 : Math.max(1, size));
-                text.append(j == 0 ? "" : " ").append(zeros()).append(point).append(gap());
+            for (int j = 0; j < 8 && points > 0 && text.length() < 290; j++) {
+                int point = oneIn(200) ? below(12) : order.get(j);
+                if (point >= size && !oneIn(60)) {
+                    continue;
+                }
+                points--;
+                text.append(text.charAt(text.length() - 1) <= '9' ? " " : "").append(zeros()).append(point).append(gap());
             }
         }
-        if (oneIn(5)) {
+        if (oneIn(7)) {
             int at = below(text.length() + 1);
             String more = " ;;a0az{`/:9@Z\n\u0001\u00e9\u00ff facet points";
             int sign = below(more.length());
             text.insert(at, more.charAt(sign));
         }
-        if (oneIn(8)) {
+        if (oneIn(12)) {
             text.deleteCharAt(below(text.length()));
         }
-        if (oneIn(8)) {
+        if (oneIn(12)) {
             text.setLength(below(text.length() + 1));
         }
         return text.length() > 300 ? text.substring(0, 300) : text.toString();
@@ -84,7 +88,7 @@ public final class ReferenceTest {
     }
 
     private static String zeros() {
-        return oneIn(10) ? "0".repeat(below(5)) : "";
+        return oneIn(10) ? "0".repeat(below(oneIn(8) ? 5 : 4)) : "";
     }
 
     private static int[] words(String text, int from) {
@@ -132,7 +136,7 @@ public final class ReferenceTest {
             if (!oneIn(6)) {
                 loadText();
             }
-            while (calls < CALLS - 20 && ok) {
+            while (calls < CALLS - 40 && ok) {
                 if (oneIn(60)) {
                     loadText();
                 } else if (below(100) < changesIn100) {
@@ -148,6 +152,11 @@ public final class ReferenceTest {
 
         private void loadText() throws Exception {
             String text = text();
+            if (oneIn(15)) {
+                for (int k = below(10); k < 16; k++) {
+                    both("append", 0x20202020, 0x20202020, 0x20202020, 0x20202020, 0x20202020);
+                }
+            }
             both("truncate", oneIn(20) ? below(320) - 5 : 0);
             for (int from = 0; from < text.length(); from += 20) {
                 int[] w = words(text, from);
