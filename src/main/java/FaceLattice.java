@@ -1263,16 +1263,21 @@ public final class FaceLattice {
             if (mapped >= from.points) {
                 return true;
             }
-            int free = allowed[order[mapped]] & ~used;
             for (int t = 0; t < onto.points; t++) {
-                if ((free >> t & 1) == 1) {
-                    image[mapped] = t;
-                    if (agrees(from, onto, mapped + 1) && extend(from, onto, mapped + 1, used | 1 << t)) {
-                        return true;
-                    }
+                if (goesTo(t, from, onto, mapped, used)) {
+                    return true;
                 }
             }
             return false;
+        }
+
+        private boolean goesTo(int target, Incidence from, Incidence onto, int mapped, int used) {
+            int bit = 1 << target;
+            if ((allowed[order[mapped]] & ~used & bit) == 0) {
+                return false;
+            }
+            image[mapped] = target;
+            return agrees(from, onto, mapped + 1) && extend(from, onto, mapped + 1, used | bit);
         }
 
         // Whether the facets, cut down to the points mapped so far, go to each other, each as often.

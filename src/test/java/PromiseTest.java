@@ -1,18 +1,5 @@
-import java.util.NoSuchElementException;
-
 /** For each promise of the document: ordinary inputs, the edges that it names, and wrong inputs. */
-public final class PromiseTest {
-    private static final Class<? extends RuntimeException> INDEX = IndexOutOfBoundsException.class;
-    private static final Class<? extends RuntimeException> STATE = IllegalStateException.class;
-    private static final Class<? extends RuntimeException> ARGUMENT = IllegalArgumentException.class;
-    private static final Class<? extends RuntimeException> ELEMENT = NoSuchElementException.class;
-    private static final int LOW = Integer.MIN_VALUE;
-    private static final int HIGH = Integer.MAX_VALUE;
-
-    private static int promise = 0;
-    private static int checked = 0;
-    private static int wrong = 0;
-
+public final class PromiseTest extends Checks {
     public static void main(String[] args) {
         newObject();
         append();
@@ -45,115 +32,31 @@ public final class PromiseTest {
         paths();
         automorphisms();
         likeness();
-        System.out.println(checked + " answers checked, " + wrong + " wrong");
-        if (wrong != 0) {
-            System.exit(1);
-        }
+        end();
     }
 
     // Tools
 
-    private static void due(String what, long got, long want) {
-        checked++;
-        if (got != want) {
-            wrong++;
-            System.out.println("promise " + promise + ": " + what + " answered " + got + ", due is " + want);
-        }
-    }
-
-    private static void due(String what, boolean got, boolean want) {
-        due(what, got ? 1 : 0, want ? 1 : 0);
-    }
-
-    private static void facetsDue(String what, FaceLattice x, int... want) {
-        due(what + ": number of facets", x.facetCount(), want.length);
-        for (int f = 0; f < want.length && f < x.facetCount(); f++) {
-            due(what + ": facet " + f, x.facet(f), want[f]);
-        }
-    }
-
-    private static void facesDue(String what, FaceLattice x, int... want) {
-        due(what + ": number of faces", x.faceCount(), want.length);
-        for (int c = 0; c < want.length && c < x.faceCount(); c++) {
-            due(what + ": face " + c, x.face(c), want[c]);
-        }
-    }
-
     /** A call that must throw just this, and change nothing. */
     private static void refused(String what, FaceLattice x, Class<? extends RuntimeException> want, Runnable call) {
         String before = seen(x);
-        String got = "nothing";
-        try {
-            call.run();
-        } catch (RuntimeException e) {
-            got = e.getClass().getName();
-        }
-        checked++;
-        if (!got.equals(want.getName())) {
-            wrong++;
-            System.out.println("promise " + promise + ": " + what + " threw " + got + ", due is " + want.getName());
-        }
-        if (!seen(x).equals(before)) {
-            wrong++;
-            System.out.println("promise " + promise + ": " + what + " changed the object: " + before + " to " + seen(x));
-        }
+        throwsDue(what, want, call);
+        due(what + " changes nothing", seen(x), before);
     }
 
+    /** What can be seen of an object without changing it. */
     private static String seen(FaceLattice x) {
-        StringBuilder seen = new StringBuilder();
-        seen.append(x.pointCount()).append(" points, facets");
-        for (int f = 0; f < x.facetCount(); f++) {
-            seen.append(' ').append(x.facet(f));
-        }
-        seen.append(", faces");
-        for (int c = 0; c < x.faceCount(); c++) {
-            seen.append(' ').append(x.face(c));
-        }
-        seen.append(", undo ").append(x.undoCount());
-        seen.append(", buffer ").append(x.append(0, 0, 0, 0, 0)).append(" error ").append(x.errorPosition());
-        try {
-            seen.append(", like ").append(x.isLike());
-        } catch (IllegalStateException e) {
-            seen.append(", no copy");
-        }
-        return seen.toString();
-    }
-
-    private static void type(FaceLattice x, String text) {
-        for (int from = 0; from < text.length(); from += 20) {
-            int[] words = new int[5];
-            for (int k = 0; k < 20 && from + k < text.length(); k++) {
-                words[k / 4] |= text.charAt(from + k) << 24 - 8 * (k % 4);
-            }
-            x.append(words[0], words[1], words[2], words[3], words[4]);
-        }
-    }
-
-    private static FaceLattice of(String text) {
-        FaceLattice x = new FaceLattice();
-        type(x, text);
-        x.load();
-        return x;
-    }
-
-    private static int errorIn(String text) {
-        FaceLattice x = new FaceLattice();
-        type(x, text);
-        return x.errorPosition();
-    }
-
-    private static int length(FaceLattice x) {
-        return x.append(0, 0, 0, 0, 0);
+        return stateOf(x) + facesOf(x, 20) + ", buffer " + lengthOf(x) + " error " + x.errorPosition() + copyOf(x);
     }
 
     // 1 to 5
 
     private static void newObject() {
-        promise = 1;
+        test = "promise 1";
         FaceLattice x = new FaceLattice();
         due("points", x.pointCount(), 1);
         due("facets", x.facetCount(), 0);
-        due("buffer", length(x), 0);
+        due("buffer", lengthOf(x), 0);
         due("undoCount", x.undoCount(), 0);
         facesDue("new", x, 1);
         due("NONE", FaceLattice.NONE, -1);
@@ -163,7 +66,7 @@ public final class PromiseTest {
     }
 
     private static void append() {
-        promise = 2;
+        test = "promise 2";
         FaceLattice x = new FaceLattice();
         due("20 bytes", x.append(0x706f696e, 0x74732038, 0x20202020, 0x20202020, 0x20202020), 20);
         due("valid", x.errorPosition(), -1);
@@ -184,12 +87,12 @@ public final class PromiseTest {
         refused("3 where 2 fit, in the second", x, STATE, () -> x.append(0, 0x41414100, 0, 0, 0));
         refused("3 where 2 fit, in the third", x, STATE, () -> x.append(0, 0, 0x80008080, 0, 0));
         refused("3 where 2 fit, in the fourth", x, STATE, () -> x.append(0, 0, 0, 0x00ff80ff, 0));
-        due("length kept", length(x), 298);
+        due("length kept", lengthOf(x), 298);
         due("2 where 2 fit", x.append(0, 0x00410000, 0, 0, 0x41), 300);
     }
 
     private static void truncate() {
-        promise = 3;
+        test = "promise 3";
         FaceLattice x = new FaceLattice();
         due("empty", x.truncate(0), 0);
         refused("1 of 0", x, ARGUMENT, () -> x.truncate(1));
@@ -206,7 +109,7 @@ public final class PromiseTest {
     }
 
     private static void errorPosition() {
-        promise = 4;
+        test = "promise 4";
         String[] valid = {"points 1", "points 8", "simplex 2", "simplex 8", "cycle 3", "cycle 8", "cube 1", "cube 3",
             "cross 1", "cross 3", "points8", "  cube   2  ", "points 0008", "points 3;facet 0", "points3;facet2 1 0",
             " points 3 ; facet 2 ; facet 2 ", "points 8;facet 0 1 2 3 4 5 6 7", "simplex 8;facet 0;facet 0",
@@ -252,21 +155,21 @@ public final class PromiseTest {
         due("checking twice", x.errorPosition(), -1);
         due("points are kept", x.pointCount(), 4);
         facetsDue("facets are kept", x, 3, 6, 12, 9);
-        due("buffer is kept", length(x), 8);
+        due("buffer is kept", lengthOf(x), 8);
     }
 
     private static void load() {
-        promise = 5;
+        test = "promise 5";
         FaceLattice x = of("points 3;facet 0 2;facet 1");
         facetsDue("loaded", x, 5, 2);
         due("points", x.pointCount(), 3);
-        due("buffer is empty", length(x), 0);
+        due("buffer is empty", lengthOf(x), 0);
         refused("empty text", x, ARGUMENT, x::load);
         x.save();
         x.addFacet(1);
         type(x, "cube 4");
         refused("wrong text", x, ARGUMENT, x::load);
-        due("buffer is kept", length(x), 6);
+        due("buffer is kept", lengthOf(x), 6);
         due("history is kept", x.undoCount(), 1);
         due("copy is kept", x.isLike(), false);
         x.truncate(5);
@@ -277,7 +180,7 @@ public final class PromiseTest {
         refused("no undo", x, STATE, x::undo);
         refused("no copy", x, STATE, x::restore);
         refused("no copy to compare", x, STATE, x::isLike);
-        due("buffer is empty again", length(x), 0);
+        due("buffer is empty again", lengthOf(x), 0);
         type(x, "points 6");
         due("no facets", x.load(), 0);
         due("faces follow", x.faceCount(), 1);
@@ -307,7 +210,7 @@ public final class PromiseTest {
     // 6 to 14
 
     private static void setIncident() {
-        promise = 6;
+        test = "promise 6";
         FaceLattice x = of("points 3;facet 0;facet 1 2");
         due("in", x.setIncident(2, 0, true), false);
         due("in again", x.setIncident(2, 0, true), true);
@@ -335,7 +238,7 @@ public final class PromiseTest {
     }
 
     private static void addFacet() {
-        promise = 7;
+        test = "promise 7";
         FaceLattice x = of("points 3");
         due("first", x.addFacet(5), 0);
         due("empty", x.addFacet(0), 1);
@@ -358,7 +261,7 @@ public final class PromiseTest {
     }
 
     private static void removeFacet() {
-        promise = 8;
+        test = "promise 8";
         FaceLattice x = of("points 4;facet 0;facet 1;facet 2;facet 3;facet 0 3");
         due("middle", x.removeFacet(1), 2);
         facetsDue("moved", x, 1, 4, 8, 9);
@@ -384,7 +287,7 @@ public final class PromiseTest {
     }
 
     private static void dual() {
-        promise = 9;
+        test = "promise 9";
         FaceLattice x = of("cycle 4");
         due("faces", x.dual(), 10);
         facetsDue("dual", x, 9, 3, 6, 12);
@@ -408,7 +311,7 @@ public final class PromiseTest {
     }
 
     private static void pyramid() {
-        promise = 10;
+        test = "promise 10";
         FaceLattice x = new FaceLattice();
         due("of a point", x.pyramid(), 2);
         facetsDue("of a point", x, 1);
@@ -430,7 +333,7 @@ public final class PromiseTest {
     }
 
     private static void stack() {
-        promise = 11;
+        test = "promise 11";
         FaceLattice x = of("simplex 4");
         due("facets", x.stack(1), 6);
         facetsDue("stacked", x, 14, 11, 7, 21, 25, 28);
@@ -462,7 +365,7 @@ public final class PromiseTest {
     }
 
     private static void cutOff() {
-        promise = 12;
+        test = "promise 12";
         FaceLattice x = of("simplex 3");
         due("points", x.cutOff(1), 4);
         facetsDue("cut", x, 10, 3, 5, 12);
@@ -496,7 +399,7 @@ public final class PromiseTest {
     }
 
     private static void keepFace() {
-        promise = 13;
+        test = "promise 13";
         FaceLattice x = of("cube 3");
         int side = x.indexOf(0xaa);
         due("facets", x.keepFace(side), 4);
@@ -527,7 +430,7 @@ public final class PromiseTest {
     }
 
     private static void figure() {
-        promise = 14;
+        test = "promise 14";
         FaceLattice x = of("cube 3");
         due("points", x.figure(0), 3);
         facetsDue("triangle", x, 6, 5, 3);
@@ -555,14 +458,14 @@ public final class PromiseTest {
     // 15 to 18
 
     private static void undo() {
-        promise = 15;
+        test = "promise 15";
         FaceLattice x = of("points 4");
         refused("nothing", x, STATE, x::undo);
         for (int k = 1; k <= 10; k++) {
             x.addFacet(k);
-            promise = 16;
+            test = "promise 16";
             due("undoCount", x.undoCount(), Math.min(k, 8));
-            promise = 15;
+            test = "promise 15";
         }
         refused("not a change", x, STATE, () -> x.addFacet(1));
         for (int k = 7; k >= 5; k--) {
@@ -597,24 +500,24 @@ public final class PromiseTest {
     }
 
     private static void save() {
-        promise = 17;
+        test = "promise 17";
         FaceLattice x = of("cycle 4");
         due("save", x.save(), 4);
         x.addFacet(3);
         due("history goes on", x.undoCount(), 1);
-        promise = 18;
+        test = "promise 18";
         x.pyramid();
         due("restore", x.restore(), 4);
         facetsDue("restored", x, 3, 6, 12, 9);
         due("no history", x.undoCount(), 0);
         refused("no undo", x, STATE, x::undo);
         x.pyramid();
-        promise = 17;
+        test = "promise 17";
         due("in place of the earlier one", x.save(), 5);
         x.undo();
         due("undo keeps the copy", x.isLike(), false);
         x.setIncident(0, 0, false);
-        promise = 18;
+        test = "promise 18";
         due("restore the later", x.restore(), 5);
         facetsDue("restored", x, 19, 22, 28, 25, 15);
         due("faces follow", x.faceCount(), 20);
@@ -632,18 +535,18 @@ public final class PromiseTest {
 
     private static void counts() {
         FaceLattice x = of("cube 3");
-        promise = 19;
+        test = "promise 19";
         due("points", x.pointCount(), 8);
         x.figure(2);
         due("fewer points", x.pointCount(), 3);
-        promise = 20;
+        test = "promise 20";
         due("facets", x.facetCount(), 3);
         x.addFacet(0);
         due("one more", x.facetCount(), 4);
     }
 
     private static void facets() {
-        promise = 21;
+        test = "promise 21";
         FaceLattice x = of("points 8;facet 7;facet 0 7;facet 1");
         due("facet 0", x.facet(0), 128);
         due("facet 1", x.facet(1), 129);
@@ -651,7 +554,7 @@ public final class PromiseTest {
         refused("facet 3", x, INDEX, () -> x.facet(3));
         refused("facet -1", x, INDEX, () -> x.facet(-1));
         refused("facet 10", x, INDEX, () -> x.facet(10));
-        promise = 22;
+        test = "promise 22";
         due("point 7", x.facetsOf(7), 3);
         due("point 0", x.facetsOf(0), 2);
         due("point 6", x.facetsOf(6), 0);
@@ -663,7 +566,7 @@ public final class PromiseTest {
     }
 
     private static void closure() {
-        promise = 23;
+        test = "promise 23";
         FaceLattice x = of("points 4;facet 0 1 2;facet 0 1 3");
         due("of none", x.closure(0), 3);
         due("of 0", x.closure(1), 3);
@@ -681,7 +584,7 @@ public final class PromiseTest {
     // 24 to 36
 
     private static void faces() {
-        promise = 25;
+        test = "promise 25";
         facesDue("simplex", of("simplex 3"), 0, 1, 2, 4, 3, 5, 6, 7);
         facesDue("by rank, then by set", of("points 4;facet 2 3;facet 0;facet 3;facet 0 1"), 0, 1, 8, 3, 12, 15);
         facesDue("no facets", of("points 3"), 7);
@@ -691,11 +594,11 @@ public final class PromiseTest {
         refused("face 10", x, INDEX, () -> x.face(10));
         refused("face -1", x, INDEX, () -> x.face(-1));
         refused("face 255", x, INDEX, () -> x.face(255));
-        promise = 24;
+        test = "promise 24";
         due("256", of("simplex 8").faceCount(), 256);
         due("cube", of("cube 3").faceCount(), 28);
         due("1", new FaceLattice().faceCount(), 1);
-        promise = 26;
+        test = "promise 26";
         due("first", x.indexOf(0), 0);
         due("an edge", x.indexOf(10), FaceLattice.NONE);
         due("an edge", x.indexOf(9), 7);
@@ -709,7 +612,7 @@ public final class PromiseTest {
     }
 
     private static void ranks() {
-        promise = 27;
+        test = "promise 27";
         FaceLattice x = of("points 4;facet 2 3;facet 0;facet 3;facet 0 1");
         int[] ranks = {0, 1, 1, 2, 2, 3};
         for (int c = 0; c < 6; c++) {
@@ -720,11 +623,11 @@ public final class PromiseTest {
         due("greatest rank counts", uneven.rank(4), 3);
         refused("face 5", uneven, INDEX, () -> uneven.rank(5));
         refused("face -1", uneven, INDEX, () -> uneven.rank(-1));
-        promise = 28;
+        test = "promise 28";
         due("height", uneven.height(), 3);
         due("of one face", new FaceLattice().height(), 0);
         due("of a simplex", of("simplex 8").height(), 8);
-        promise = 29;
+        test = "promise 29";
         due("rank 0", uneven.ofRank(0), 1);
         due("rank 1", uneven.ofRank(1), 2);
         due("rank 2", uneven.ofRank(2), 1);
@@ -742,7 +645,7 @@ public final class PromiseTest {
 
     private static void covers() {
         FaceLattice x = of("points 4;facet 0;facet 0 1;facet 2 3");
-        promise = 30;
+        test = "promise 30";
         due("up from 0", x.covers(0, true), 2);
         due("down from 0", x.covers(0, false), 0);
         due("up from 12", x.covers(2, true), 1);
@@ -750,7 +653,7 @@ public final class PromiseTest {
         due("up from all", x.covers(4, true), 0);
         refused("face 5", x, INDEX, () -> x.covers(5, true));
         refused("face -1", x, INDEX, () -> x.covers(-1, false));
-        promise = 31;
+        test = "promise 31";
         due("first up", x.cover(0, true, 0), 1);
         due("second up", x.cover(0, true, 1), 2);
         due("past a rank", x.cover(2, true, 0), 4);
@@ -766,7 +669,7 @@ public final class PromiseTest {
 
     private static void joinAndMeet() {
         FaceLattice x = of("cube 3");
-        promise = 32;
+        test = "promise 32";
         due("points of an edge", x.face(x.join(x.indexOf(1), x.indexOf(2))), 3);
         due("points of a side", x.face(x.join(x.indexOf(1), x.indexOf(8))), 15);
         due("opposite points", x.join(x.indexOf(1), x.indexOf(128)), 27);
@@ -776,7 +679,7 @@ public final class PromiseTest {
         refused("first missing", x, INDEX, () -> x.join(28, 0));
         refused("second missing", x, INDEX, () -> x.join(0, 28));
         refused("negative", x, INDEX, () -> x.join(0, -1));
-        promise = 33;
+        test = "promise 33";
         due("sides", x.face(x.meet(x.indexOf(15), x.indexOf(0x55))), 5);
         due("opposite sides", x.meet(x.indexOf(15), x.indexOf(240)), 0);
         due("of one", x.meet(5, 5), 5);
@@ -785,7 +688,7 @@ public final class PromiseTest {
         refused("first missing", x, INDEX, () -> x.meet(28, 0));
         refused("second missing", x, INDEX, () -> x.meet(0, 28));
         refused("negative", x, INDEX, () -> x.meet(-1, 0));
-        promise = 34;
+        test = "promise 34";
         due("all", x.between(0, 27), 28);
         due("a side", x.between(0, x.indexOf(15)), 10);
         due("above a point", x.between(1, 27), 8);
@@ -798,7 +701,7 @@ public final class PromiseTest {
     }
 
     private static void chains() {
-        promise = 35;
+        test = "promise 35";
         FaceLattice x = of("cube 3");
         due("flags of a cube", x.chains(0, 27), 48);
         due("of a side", x.chains(0, x.indexOf(15)), 8);
@@ -814,7 +717,7 @@ public final class PromiseTest {
         due("of unlike length", uneven.chains(0, 4), 2);
         FaceLattice most = of("simplex 8");
         due("most", most.chains(0, 255), 40320);
-        promise = 42;
+        test = "promise 42";
         due("flags", uneven.flags(), 2);
         due("most", most.flags(), 40320);
         due("one face", new FaceLattice().flags(), 1);
@@ -822,7 +725,7 @@ public final class PromiseTest {
     }
 
     private static void mobius() {
-        promise = 36;
+        test = "promise 36";
         FaceLattice x = of("cube 3");
         due("itself", x.mobius(3, 3), 1);
         due("a cover", x.mobius(0, 1), -1);
@@ -854,19 +757,19 @@ public final class PromiseTest {
         FaceLattice cross = of("cross 3");
         FaceLattice simplex = of("simplex 5");
         FaceLattice chain = of("points 3;facet 0;facet 0 1");
-        promise = 37;
+        test = "promise 37";
         due("uneven", uneven.isGraded(), false);
         due("flat", flat.isGraded(), true);
         due("one face", one.isGraded(), true);
         due("cube", cube.isGraded(), true);
-        promise = 38;
+        test = "promise 38";
         due("uneven", uneven.alternating(), -1);
         due("flat", flat.alternating(), -1);
         due("one", one.alternating(), 1);
         due("line", line.alternating(), 0);
         due("cube", cube.alternating(), 0);
         due("chain", chain.alternating(), 1);
-        promise = 39;
+        test = "promise 39";
         due("uneven", uneven.isEulerian(), false);
         due("three points between", flat.isEulerian(), false);
         due("chain", chain.isEulerian(), false);
@@ -882,7 +785,7 @@ public final class PromiseTest {
         FaceLattice spheres = of("points 8;facet 0 1 2;facet 0 1 3;facet 0 2 3;facet 1 2 3"
                 + ";facet 4 5 6;facet 4 5 7;facet 4 6 7;facet 5 6 7");
         due("wrong from the first to the last only", spheres.isEulerian(), false);
-        promise = 40;
+        test = "promise 40";
         due("cube", cube.isSimplicial(), false);
         due("cross", cross.isSimplicial(), true);
         due("simplex", simplex.isSimplicial(), true);
@@ -890,7 +793,7 @@ public final class PromiseTest {
         due("one", one.isSimplicial(), true);
         due("chain", chain.isSimplicial(), true);
         due("longer chain", of("points 4;facet 0;facet 0 1;facet 0 1 2").isSimplicial(), false);
-        promise = 41;
+        test = "promise 41";
         due("cube", cube.isSimple(), true);
         due("cross", cross.isSimple(), false);
         due("simplex", simplex.isSimple(), true);
@@ -903,7 +806,7 @@ public final class PromiseTest {
     // 43 to 46
 
     private static void neighbours() {
-        promise = 43;
+        test = "promise 43";
         FaceLattice x = of("cube 3");
         due("points", x.neighbours(0, false), 2 + 4 + 16);
         due("facets", x.neighbours(0, true), 4 + 8 + 16 + 32);
@@ -929,7 +832,7 @@ public final class PromiseTest {
     private static void paths() {
         FaceLattice x = of("cycle 7");
         FaceLattice two = of("points 4;facet 0 1;facet 2 3;facet 0;facet 1;facet 2;facet 3");
-        promise = 44;
+        test = "promise 44";
         due("same", x.distance(3, 3, false), 0);
         due("neighbour", x.distance(0, 6, false), 1);
         due("far", x.distance(0, 4, false), 3);
@@ -942,7 +845,7 @@ public final class PromiseTest {
         refused("facet 7", x, INDEX, () -> x.distance(7, 0, true));
         refused("other facet -1", x, INDEX, () -> x.distance(0, -1, true));
         refused("point -1", x, INDEX, () -> x.distance(-1, -1, false));
-        promise = 45;
+        test = "promise 45";
         due("to the neighbour", x.step(0, 6, false), 6);
         due("up", x.step(0, 3, false), 1);
         due("down", x.step(0, 4, false), 6);
@@ -959,7 +862,7 @@ public final class PromiseTest {
         refused("facet -1 alone", x, INDEX, () -> x.step(-1, 0, true));
         refused("other facet 7", x, INDEX, () -> x.step(0, 7, true));
         refused("facet -1", x, INDEX, () -> x.step(-1, -1, true));
-        promise = 46;
+        test = "promise 46";
         due("cycle", x.diameter(false), 3);
         due("facets", x.diameter(true), 3);
         due("cube", of("cube 3").diameter(false), 3);
@@ -982,7 +885,7 @@ public final class PromiseTest {
     // 47 to 50
 
     private static void automorphisms() {
-        promise = 47;
+        test = "promise 47";
         due("one point", new FaceLattice().automorphisms(), 1);
         due("8 points", of("points 8").automorphisms(), 40320);
         due("simplex 8", of("simplex 8").automorphisms(), 40320);
@@ -995,7 +898,7 @@ public final class PromiseTest {
         due("Fano", of("points 7;facet 0 1 2;facet 0 3 4;facet 0 5 6;facet 1 3 5;facet 1 4 6;facet 2 3 6"
                 + ";facet 2 4 5").automorphisms(), 168);
         due("nothing but itself", of("points 4;facet 0;facet 0 1;facet 0 1 2").automorphisms(), 1);
-        promise = 48;
+        test = "promise 48";
         FaceLattice x = of("points 5;facet 0 1;facet 1 2;facet 3");
         due("ends", x.orbit(0), 5);
         due("other end", x.orbit(2), 5);
@@ -1013,30 +916,30 @@ public final class PromiseTest {
 
     private static void likeness() {
         FaceLattice x = of("points 4;facet 0 1;facet 1 2;facet 2 3");
-        promise = 49;
+        test = "promise 49";
         refused("no copy", x, STATE, x::isLike);
-        promise = 50;
+        test = "promise 50";
         refused("no copy", x, STATE, () -> x.image(0));
         refused("no copy, no point", x, INDEX, () -> x.image(4));
         x.save();
         due("first one", x.image(0), 0);
         due("itself", x.image(3), 3);
-        promise = 49;
+        test = "promise 49";
         due("itself", x.isLike(), true);
         x.removeFacet(0);
         due("fewer facets", x.isLike(), false);
-        promise = 50;
+        test = "promise 50";
         refused("none", x, ELEMENT, () -> x.image(0));
         refused("none, no point", x, INDEX, () -> x.image(-1));
-        promise = 49;
+        test = "promise 49";
         x.addFacet(9);
         due("path 1 2 3 0", x.isLike(), true);
-        promise = 50;
+        test = "promise 50";
         int[] images = {0, 3, 2, 1};
         for (int p = 0; p < 4; p++) {
             due("image of " + p, x.image(p), images[p]);
         }
-        promise = 49;
+        test = "promise 49";
         x.addFacet(8);
         x.removeFacet(0);
         due("other sizes", x.isLike(), false);
@@ -1045,11 +948,11 @@ public final class PromiseTest {
         due("again", x.isLike(), true);
         x.pyramid();
         due("more points", x.isLike(), false);
-        promise = 50;
+        test = "promise 50";
         refused("more points", x, ELEMENT, () -> x.image(4));
         FaceLattice rings = of("points 6;facet 0 1;facet 1 2;facet 2 0;facet 3 4;facet 4 5;facet 5 3");
         rings.save();
-        promise = 49;
+        test = "promise 49";
         int[] ring = {3, 6, 12, 24, 48, 33};
         for (int f = 0; f < 6; f++) {
             for (int p = 0; p < 6; p++) {
@@ -1057,15 +960,15 @@ public final class PromiseTest {
             }
         }
         due("same degrees, other rings", rings.isLike(), false);
-        promise = 50;
+        test = "promise 50";
         refused("same degrees, other rings", rings, ELEMENT, () -> rings.image(0));
         FaceLattice twice = of("points 2;facet 0;facet 0;facet 1");
         twice.save();
-        promise = 49;
+        test = "promise 49";
         twice.setIncident(0, 0, false);
         twice.setIncident(1, 0, true);
         due("each as often", twice.isLike(), true);
-        promise = 50;
+        test = "promise 50";
         due("exchanged", twice.image(0), 1);
         due("exchanged", twice.image(1), 0);
         FaceLattice square = of("cycle 4");
